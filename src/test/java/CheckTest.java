@@ -1,0 +1,302 @@
+/** Promises 10 to 13: sound, faults, reached and carries. */
+public final class CheckTest {
+    private static final int MIN = Integer.MIN_VALUE;
+    private static final int MAX = Integer.MAX_VALUE;
+    private static final int FIRST = AllocChecker.FIRST;
+    private static final int SECOND = AllocChecker.SECOND;
+    private static final int LEAVES = AllocChecker.LEAVES;
+    private static final Due due = new Due("CheckTest");
+
+    public static void main(String[] args) {
+        soundNeedsAnEnd();
+        leavingIsNoted();
+        onlyReachedPositionsHaveFaults();
+        operandsAreLookedFor();
+        setAndAddTakeAPlaceOver();
+        moveCarriesOver();
+        sameCarriesOver();
+        machineAndSourceSidesAreKeptApart();
+        forksJoin();
+        loopsComeBack();
+        longChainOfLoops();
+        faultsDoNotEndAWalk();
+        askingOutside();
+        due.end();
+    }
+
+    private static void soundNeedsAnEnd() {
+        AllocChecker x = new AllocChecker();
+        due.no("empty is sound", x.sound());
+        x.flow(2, 99);
+        due.yes("STOP is sound", x.sound());
+        x.drop();
+        due.no("empty again is sound", x.sound());
+        x.flow(1, 0);
+        due.yes("a jump to itself is sound", x.sound());
+    }
+
+    private static void leavingIsNoted() {
+        for (int which = 0; which < 5; which++) {
+            AllocChecker x = new AllocChecker();
+            x.set(0, 0, 0);
+            if (which == 0) x.set(0, 0, 0);
+            if (which == 1) x.add(0, 0);
+            if (which == 2) x.move(0, 0);
+            if (which == 3) x.out(0, 0);
+            if (which == 4) x.same(0, 0);
+            due.number("last of kind " + which, x.faults(1), LEAVES);
+            due.number("not the last of kind " + which, x.faults(0), 0);
+            x.flow(2, 0);
+            due.number("no more the last of kind " + which, x.faults(1), 0);
+            due.yes("sound of kind " + which, x.sound());
+        }
+        for (int t : new int[] {-1, 2, 3, 14, MIN, MAX}) {
+            for (int kind = 0; kind < 2; kind++) {
+                AllocChecker x = new AllocChecker();
+                x.flow(kind, t);
+                x.flow(2, t);
+                due.number("flow " + kind + " to " + t, x.faults(0), LEAVES);
+                due.number("STOP with t " + t, x.faults(1), 0);
+                due.number("reached behind flow " + kind, x.reached(1) ? 1 : 0, 1 - kind);
+                due.no("sound with flow " + kind + " to " + t, x.sound());
+            }
+        }
+        AllocChecker x = new AllocChecker();
+        x.flow(0, 0);
+        due.number("a fork at the end", x.faults(0), LEAVES);
+        x.flow(2, 0);
+        due.number("a fork not at the end", x.faults(0), 0);
+        x.drop();
+        x.drop();
+        x.flow(1, 1);
+        due.number("a jump just behind the end", x.faults(0), LEAVES);
+        x.flow(1, 0);
+        due.number("a jump to the last", x.faults(0), 0);
+        due.yes("two jumps are sound", x.sound());
+
+        AllocChecker full = new AllocChecker();
+        for (int i = 0; i < 13; i++) {
+            full.set(0, 0, 0);
+        }
+        full.flow(0, 14);
+        due.number("a fork out of a full program", full.faults(13), LEAVES);
+        full.drop();
+        full.set(0, 0, 0);
+        due.number("the end of a full program", full.faults(13), LEAVES);
+    }
+
+    private static void onlyReachedPositionsHaveFaults() {
+        AllocChecker x = new AllocChecker();
+        x.flow(1, 3);
+        x.out(0, 0);
+        x.add(16, 64);
+        x.flow(2, 0);
+        x.flow(1, 77);
+        due.no("passed by", x.reached(1));
+        due.no("passed by too", x.reached(2));
+        due.yes("the target", x.reached(3));
+        due.no("behind STOP", x.reached(4));
+        due.number("no fault where nobody comes", x.faults(1) + x.faults(2) + x.faults(4), 0);
+        due.number("nothing carried where nobody comes", x.carries(4, 0), 0);
+        due.yes("sound all the same", x.sound());
+    }
+
+    private static void operandsAreLookedFor() {
+        AllocChecker x = new AllocChecker();
+        x.out(0, 0);
+        x.flow(2, 0);
+        due.number("nothing is carried at first", x.faults(0), FIRST);
+        x = addOf(true, true);
+        due.number("both there", x.faults(2), 0);
+        x = addOf(false, true);
+        due.number("a is not there", x.faults(2), FIRST);
+        x = addOf(true, false);
+        due.number("b is not there", x.faults(2), SECOND);
+        due.no("sound without b", x.sound());
+        x = addOf(false, false);
+        due.number("none is there", x.faults(2), FIRST + SECOND);
+        x.drop();
+        due.number("none is there, at the end", x.faults(2), FIRST + SECOND + LEAVES);
+
+        x = new AllocChecker();
+        x.set(1, 1, 5);
+        x.out(1, 2);
+        due.number("in another place", x.faults(1), FIRST + LEAVES);
+        x.drop();
+        x.out(0, 1);
+        due.number("another value", x.faults(1), FIRST + LEAVES);
+        x.drop();
+        x.out(1, 1);
+        due.number("the right one", x.faults(1), LEAVES);
+    }
+
+    /** ADD 3, 1, 2 into place 4, with 1 in place 0 and 2 in place 3, looked for there or elsewhere. */
+    private static AllocChecker addOf(boolean aIsThere, boolean bIsThere) {
+        AllocChecker x = new AllocChecker();
+        x.set(1, 0, 5);
+        x.set(2, 3, 6);
+        x.add(3 + 4 * 1 + 16 * 2, 4 + 8 * (aIsThere ? 0 : 3) + 64 * (bIsThere ? 3 : 0));
+        x.flow(2, 0);
+        return x;
+    }
+
+    private static void setAndAddTakeAPlaceOver() {
+        for (int withAdd = 0; withAdd < 2; withAdd++) {
+            AllocChecker x = new AllocChecker();
+            x.set(0, 0, 1);
+            x.set(1, 1, 2);
+            x.move(2, 0);
+            x.same(2, 1);
+            if (withAdd == 0) x.set(0, 1, 3);
+            if (withAdd == 1) x.add(0 + 4 * 1 + 16 * 2, 1 + 8 * 1 + 64 * 1);
+            x.flow(2, 0);
+            due.number("before: place 0", x.carries(4, 0), 17);
+            due.number("before: place 1", x.carries(4, 1), 17 * 6);
+            due.number("before: place 2", x.carries(4, 2), 17);
+            due.number("after: old copies carry it no more", x.carries(5, 0), 0);
+            due.number("after: the place carries it alone", x.carries(5, 1), 17);
+            due.number("after: the other copy too", x.carries(5, 2), 0);
+            due.number("after: an untouched place", x.carries(5, 3), 0);
+            due.yes("all in order", x.sound());
+        }
+    }
+
+    private static void moveCarriesOver() {
+        AllocChecker x = new AllocChecker();
+        x.set(0, 0, 1);
+        x.same(3, 0);
+        x.set(1, 4, 2);
+        x.move(4, 0);
+        x.move(0, 2);
+        x.move(4, 4);
+        x.flow(2, 0);
+        due.number("what q carried", x.carries(4, 4), 17 * 9);
+        due.number("q keeps it", x.carries(4, 0), 17 * 9);
+        due.number("a move of nothing", x.carries(5, 0), 0);
+        due.number("a move to itself", x.carries(6, 4), 17 * 9);
+    }
+
+    private static void sameCarriesOver() {
+        AllocChecker x = new AllocChecker();
+        x.set(0, 0, 1);
+        x.move(3, 0);
+        x.set(1, 1, 2);
+        x.same(1, 0);
+        x.same(0, 2);
+        x.same(1, 1);
+        x.flow(2, 0);
+        due.number("where a is, v is", x.carries(4, 0), 17 * 3);
+        due.number("there too", x.carries(4, 3), 17 * 3);
+        due.number("where only v was, it is no more", x.carries(4, 1), 0);
+        due.number("the same as nothing", x.carries(5, 0), 17 * 2);
+        due.number("there too", x.carries(5, 3), 17 * 2);
+        due.number("the same as itself", x.carries(6, 3), 17 * 2);
+    }
+
+    private static void machineAndSourceSidesAreKeptApart() {
+        AllocChecker x = new AllocChecker();
+        x.set(0, 0, 5);
+        x.set(1, 1, 5);
+        x.out(1, 0);
+        x.flow(2, 0);
+        due.number("equal numbers are not the same value", x.faults(2), FIRST);
+    }
+
+    private static void forksJoin() {
+        AllocChecker x = new AllocChecker();
+        x.set(0, 0, 1);
+        x.set(1, 1, 2);
+        x.flow(0, 5);
+        x.move(2, 0);
+        x.flow(1, 7);
+        x.move(2, 1);
+        x.move(3, 1);
+        x.out(0, 2);
+        x.flow(2, 0);
+        due.number("on one walk 0, on the other 1", x.carries(7, 2), 48);
+        due.number("on one walk 1, on the other nothing", x.carries(7, 3), 32);
+        due.number("on both", x.carries(7, 1), 34);
+        due.number("one walk is enough for a fault", x.faults(7), FIRST);
+        due.number("on the one walk alone", x.carries(4, 2), 17);
+        due.number("on the other walk alone", x.carries(6, 2), 34);
+        due.no("not sound", x.sound());
+    }
+
+    private static void loopsComeBack() {
+        AllocChecker x = new AllocChecker();
+        x.set(0, 0, 1);
+        x.out(0, 0);
+        x.set(1, 0, 2);
+        x.flow(0, 1);
+        x.flow(2, 0);
+        due.number("the second time it is another", x.carries(1, 0), 16 + 32);
+        due.number("a fault of the second time", x.faults(1), FIRST);
+
+        x = new AllocChecker();
+        x.set(0, 0, 1);
+        x.flow(0, 0);
+        x.flow(2, 0);
+        due.number("position 0 at first and again", x.carries(0, 0), 16);
+        due.number("behind it", x.carries(1, 0), 17);
+    }
+
+    /**
+     * What places 1 to 4 carry at position 5: 1 | 2 | 3 | 0 at first, then - | 0 | 1 | 2 3, then - | - | - | 0,
+     * then nothing: three rounds are needed to see it all.
+     */
+    private static void longChainOfLoops() {
+        AllocChecker x = new AllocChecker();
+        for (int v = 0; v < 4; v++) {
+            x.set(v, v, v);
+        }
+        x.set(0, 4, 7);
+        x.move(4, 3);
+        x.move(3, 2);
+        x.move(2, 1);
+        x.move(1, 0);
+        x.same(0, 1);
+        x.same(1, 2);
+        x.same(2, 3);
+        x.flow(0, 5);
+        x.flow(2, 0);
+        due.number("place 0", x.carries(5, 0), 0);
+        due.number("place 1", x.carries(5, 1), 32);
+        due.number("place 2", x.carries(5, 2), 16 + 64);
+        due.number("place 3", x.carries(5, 3), 32 + 128);
+        due.number("place 4", x.carries(5, 4), 16 + 64 + 128);
+    }
+
+    private static void faultsDoNotEndAWalk() {
+        AllocChecker x = new AllocChecker();
+        x.out(0, 0);
+        x.add(16, 64);
+        x.flow(0, 99);
+        x.out(0, 0);
+        x.flow(2, 0);
+        due.number("a fault", x.faults(0), FIRST);
+        due.number("the next", x.faults(1), FIRST + SECOND);
+        due.number("a fork that leaves one way", x.faults(2), LEAVES);
+        due.yes("goes on the other", x.reached(3));
+        due.number("what a faulty ADD wrote is carried", x.carries(3, 0), 17);
+        due.number("and may be put out", x.faults(3), 0);
+    }
+
+    private static void askingOutside() {
+        AllocChecker x = new AllocChecker();
+        x.set(0, 0, 1);
+        x.out(1, 1);
+        for (int p : new int[] {-1, 2, 3, 13, 14, 15, 32, MIN, MAX}) {
+            due.number("faults " + p, x.faults(p), 0);
+            due.no("reached " + p, x.reached(p));
+            due.number("carries " + p, x.carries(p, 0), 0);
+        }
+        due.number("carries inside", x.carries(1, 0), 17);
+        for (int q : new int[] {-1, 5, 6, 7, 8, 32, MIN, MAX}) {
+            due.number("carries 1, " + q, x.carries(1, q), 0);
+        }
+        x.drop();
+        due.no("a dropped position", x.reached(1));
+        due.number("its faults", x.faults(1), 0);
+        due.number("its places", x.carries(1, 0), 0);
+    }
+}
