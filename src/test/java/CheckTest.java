@@ -19,6 +19,8 @@ public final class CheckTest {
         forksJoin();
         loopsComeBack();
         longChainOfLoops();
+        walksAgainstTheOrderOfPositions();
+        lossesAndGainsOfLaterRounds();
         faultsDoNotEndAWalk();
         askingOutside();
         due.end();
@@ -264,6 +266,47 @@ public final class CheckTest {
         due.number("place 2", x.carries(5, 2), 16 + 64);
         due.number("place 3", x.carries(5, 3), 32 + 128);
         due.number("place 4", x.carries(5, 4), 16 + 64 + 128);
+    }
+
+    private static void walksAgainstTheOrderOfPositions() {
+        AllocChecker x = new AllocChecker();
+        x.flow(1, 13);
+        x.out(0, 0);
+        for (int p = 2; p < 13; p++) {
+            x.flow(1, p - 1);
+        }
+        x.flow(1, 12);
+        for (int p = 0; p < 14; p++) {
+            due.yes("reached from behind: " + p, x.reached(p));
+        }
+        due.number("the fault at the far end", x.faults(1), FIRST);
+    }
+
+    private static void lossesAndGainsOfLaterRounds() {
+        AllocChecker x = new AllocChecker();
+        x.set(0, 0, 1);
+        x.move(1, 0);
+        x.move(2, 0);
+        x.out(0, 0);
+        x.move(0, 1);
+        x.move(1, 2);
+        x.move(2, 3);
+        x.flow(0, 3);
+        x.flow(2, 0);
+        due.number("lost in the third round", x.carries(3, 0), 16);
+        due.number("and so a fault", x.faults(3), FIRST);
+
+        x = new AllocChecker();
+        x.set(0, 0, 1);
+        x.move(4, 3);
+        x.move(3, 2);
+        x.move(2, 1);
+        x.move(1, 0);
+        x.flow(0, 1);
+        x.flow(2, 0);
+        for (int q = 0; q < 5; q++) {
+            due.number("gained in round " + q, x.carries(1, q), q == 0 ? 17 : 16);
+        }
     }
 
     private static void faultsDoNotEndAWalk() {

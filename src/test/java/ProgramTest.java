@@ -194,6 +194,11 @@ public final class ProgramTest {
         due.yes("sound before the drop", x.sound());
         x.drop();
         due.number("the drop opens the end", x.faults(0), AllocChecker.LEAVES);
+
+        x.flow(0, 0);
+        due.number("a way back", x.carries(0, 2), 32);
+        x.drop();
+        due.number("the way back is gone", x.carries(0, 2), 0);
     }
 
     private static void badComesBeforeFull() {

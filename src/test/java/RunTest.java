@@ -91,7 +91,7 @@ public final class RunTest {
         due.number("moved", x.lastOut(2), 42);
         due.number("sum", x.lastOut(3), 42);
 
-        // Values are 0 again in a new run: the sum is read before value 0 is set, on the source side alone.
+        // What SAME takes from a value that was never set can be put out by no sound program.
         x = new AllocChecker();
         x.same(1, 0);
         x.set(2, 2, 1);
