@@ -16,6 +16,15 @@ final class Due {
         }
     }
 
+    void text(String what, String got, String want) {
+        looked++;
+        if (!got.equals(want)) {
+            wrong++;
+            System.out.println(test + ": " + what + " showed" + System.lineSeparator() + "  " + got
+                + System.lineSeparator() + "due is" + System.lineSeparator() + "  " + want);
+        }
+    }
+
     void yes(String what, boolean got) {
         number(what, got ? 1 : 0, 1);
     }
