@@ -23,17 +23,12 @@ public final class CheckEdgeTest {
 
     /** Promise 10: "Whether the program is SOUND", which an empty one is not. */
     private static void anEmptyProgramIsNotSound() {
-        AllocChecker x = new AllocChecker();
-        due.no("a new one", x.sound());
-        x = Sample.counting();
-        due.yes("a program", x.sound());
-        while (x.length() > 0) {
-            x.drop();
-        }
-        due.no("one with all taken away", x.sound());
+        due.no("a new one", new AllocChecker().sound());
+        due.yes("a program", Sample.counting().sound());
+        due.no("one with all taken away", Sample.takenAway().sound());
     }
 
-    /** Three instructions that each have a fault and are reached, with something in every place. */
+    /** Three instructions that are reached and have a fault each. */
     private static AllocChecker faulty() {
         AllocChecker x = new AllocChecker();
         x.flow(0, -1);

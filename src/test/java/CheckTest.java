@@ -1,16 +1,11 @@
 /** Promises 10 to 13: sound, faults, reached and carries. */
 public final class CheckTest {
-    private static final int MIN = Integer.MIN_VALUE;
-    private static final int MAX = Integer.MAX_VALUE;
     private static final int FIRST = AllocChecker.FIRST;
     private static final int SECOND = AllocChecker.SECOND;
     private static final int LEAVES = AllocChecker.LEAVES;
     private static final Due due = new Due("CheckTest");
 
     public static void main(String[] args) {
-        soundNeedsAnEnd();
-        leavingIsNoted();
-        onlyReachedPositionsHaveFaults();
         operandsAreLookedFor();
         setAndAddTakeAPlaceOver();
         moveCarriesOver();
@@ -22,85 +17,7 @@ public final class CheckTest {
         walksAgainstTheOrderOfPositions();
         lossesAndGainsOfLaterRounds();
         faultsDoNotEndAWalk();
-        askingOutside();
         due.end();
-    }
-
-    private static void soundNeedsAnEnd() {
-        AllocChecker x = new AllocChecker();
-        due.no("empty is sound", x.sound());
-        x.flow(2, 99);
-        due.yes("STOP is sound", x.sound());
-        x.drop();
-        due.no("empty again is sound", x.sound());
-        x.flow(1, 0);
-        due.yes("a jump to itself is sound", x.sound());
-    }
-
-    private static void leavingIsNoted() {
-        for (int which = 0; which < 5; which++) {
-            AllocChecker x = new AllocChecker();
-            x.set(0, 0, 0);
-            if (which == 0) x.set(0, 0, 0);
-            if (which == 1) x.add(0, 0);
-            if (which == 2) x.move(0, 0);
-            if (which == 3) x.out(0, 0);
-            if (which == 4) x.same(0, 0);
-            due.number("last of kind " + which, x.faults(1), LEAVES);
-            due.number("not the last of kind " + which, x.faults(0), 0);
-            x.flow(2, 0);
-            due.number("no more the last of kind " + which, x.faults(1), 0);
-            due.yes("sound of kind " + which, x.sound());
-        }
-        for (int t : new int[] {-1, 2, 3, 14, MIN, MAX}) {
-            for (int kind = 0; kind < 2; kind++) {
-                AllocChecker x = new AllocChecker();
-                x.flow(kind, t);
-                x.flow(2, t);
-                due.number("flow " + kind + " to " + t, x.faults(0), LEAVES);
-                due.number("STOP with t " + t, x.faults(1), 0);
-                due.number("reached behind flow " + kind, x.reached(1) ? 1 : 0, 1 - kind);
-                due.no("sound with flow " + kind + " to " + t, x.sound());
-            }
-        }
-        AllocChecker x = new AllocChecker();
-        x.flow(0, 0);
-        due.number("a fork at the end", x.faults(0), LEAVES);
-        x.flow(2, 0);
-        due.number("a fork not at the end", x.faults(0), 0);
-        x.drop();
-        x.drop();
-        x.flow(1, 1);
-        due.number("a jump just behind the end", x.faults(0), LEAVES);
-        x.flow(1, 0);
-        due.number("a jump to the last", x.faults(0), 0);
-        due.yes("two jumps are sound", x.sound());
-
-        AllocChecker full = new AllocChecker();
-        for (int i = 0; i < 13; i++) {
-            full.set(0, 0, 0);
-        }
-        full.flow(0, 14);
-        due.number("a fork out of a full program", full.faults(13), LEAVES);
-        full.drop();
-        full.set(0, 0, 0);
-        due.number("the end of a full program", full.faults(13), LEAVES);
-    }
-
-    private static void onlyReachedPositionsHaveFaults() {
-        AllocChecker x = new AllocChecker();
-        x.flow(1, 3);
-        x.out(0, 0);
-        x.add(16, 64);
-        x.flow(2, 0);
-        x.flow(1, 77);
-        due.no("passed by", x.reached(1));
-        due.no("passed by too", x.reached(2));
-        due.yes("the target", x.reached(3));
-        due.no("behind STOP", x.reached(4));
-        due.number("no fault where nobody comes", x.faults(1) + x.faults(2) + x.faults(4), 0);
-        due.number("nothing carried where nobody comes", x.carries(4, 0), 0);
-        due.yes("sound all the same", x.sound());
     }
 
     private static void operandsAreLookedFor() {
@@ -322,24 +239,5 @@ public final class CheckTest {
         due.yes("goes on the other", x.reached(3));
         due.number("what a faulty ADD wrote is carried", x.carries(3, 0), 17);
         due.number("and may be put out", x.faults(3), 0);
-    }
-
-    private static void askingOutside() {
-        AllocChecker x = new AllocChecker();
-        x.set(0, 0, 1);
-        x.out(1, 1);
-        for (int p : new int[] {-1, 2, 3, 13, 14, 15, 32, MIN, MAX}) {
-            due.number("faults " + p, x.faults(p), 0);
-            due.no("reached " + p, x.reached(p));
-            due.number("carries " + p, x.carries(p, 0), 0);
-        }
-        due.number("carries inside", x.carries(1, 0), 17);
-        for (int q : new int[] {-1, 5, 6, 7, 8, 32, MIN, MAX}) {
-            due.number("carries 1, " + q, x.carries(1, q), 0);
-        }
-        x.drop();
-        due.no("a dropped position", x.reached(1));
-        due.number("its faults", x.faults(1), 0);
-        due.number("its places", x.carries(1, 0), 0);
     }
 }

@@ -247,8 +247,11 @@ public final class ProgramEdgeTest {
     /** Promise 8: "Ends a run: IDLE." */
     private static void dropEndsARun() {
         endsARun(Calls.drop(), -1);
-        AllocChecker x = Sample.fullAndRunning();
-        due.number("drop of what no walk reaches", x.drop(), 13);
+        AllocChecker x = Sample.counting();
+        x.out(3, 4);
+        x.start(7);
+        x.step(7);
+        due.number("drop of what no walk reaches", x.drop(), 6);
         due.yes("still sound", x.sound());
         hasNoRun("after it", x);
     }
@@ -306,13 +309,7 @@ public final class ProgramEdgeTest {
     /** Promise 19: ".. something is not there, .. changes nothing." */
     private static void aRefusedDropChangesNothing() {
         changesNothing(Calls.drop(), BAD, AllocChecker::new);
-        changesNothing(Calls.drop(), BAD, () -> {
-            AllocChecker x = Sample.running();
-            while (x.length() > 0) {
-                x.drop();
-            }
-            return x;
-        });
+        changesNothing(Calls.drop(), BAD, Sample::takenAway);
     }
 
     /** Promises 14 and 19: start answers "false, changing nothing, when the program is not SOUND". */

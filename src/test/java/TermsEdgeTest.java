@@ -201,9 +201,9 @@ public final class TermsEdgeTest {
     private static void leavingByAJump() {
         for (int length = 1; length <= 14; length++) {
             for (int t : new int[] {-1, 0, length - 1, length, length + 1, 14, MIN, MAX}) {
-                AllocChecker x = Sample.ofLength(0);
+                AllocChecker x = new AllocChecker();
                 x.flow(1, t);
-                while (x.length() < length) {
+                for (int i = 1; i < length; i++) {
                     x.flow(2, 0);
                 }
                 boolean isInside = t >= 0 && t < length;
@@ -211,7 +211,7 @@ public final class TermsEdgeTest {
                 due.number("sound, JUMP " + t + " of " + length, x.sound() ? 1 : 0, isInside ? 1 : 0);
             }
         }
-        AllocChecker x = Sample.ofLength(0);
+        AllocChecker x = new AllocChecker();
         x.flow(0, 0);
         x.flow(1, 0);
         due.number("a JUMP as the last does not go on behind it", x.faults(1), 0);
